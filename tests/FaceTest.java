@@ -92,6 +92,11 @@ final class FaceTest {
             Matcher m = Pattern.compile(word).matcher(code);
             Check.due("the source has " + word, m.find(), false);
         }
+        for (String line : code.split("\n")) {
+            boolean isMadeOnce = line.matches("\\s*(private )?(final )?[A-Za-z]+(\\[\\])? [a-zA-Z]+ = new .*")
+                || line.matches("\\s*(boxes\\[i\\]|lawReader) = new .*") || line.contains("throw new ");
+            Check.due("a call makes something: " + line, line.contains("new ") && !isMadeOnce, false);
+        }
         for (String line : longMethods(code)) {
             Check.due("longer than sixty lines: " + line, 1, 0);
         }

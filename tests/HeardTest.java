@@ -33,6 +33,7 @@ final class HeardTest {
         Check.due("like(2, 0, 1)", x.like(2, 0, 1), 0);
         Check.due("like(0, 1, 2)", x.like(0, 1, 2), -1);
         Check.due("like(0, 4, 0)", x.like(0, 4, 0), -1);
+        Check.due("like(4, 0, 0)", x.like(4, 0, 0), -1);
         x.tooth(0, 3, true);
         Check.due("alike without a tooth", x.alike(0, 1, 1), 7);
     }
@@ -51,6 +52,8 @@ final class HeardTest {
         Check.due("box -1", x.fill(-1, 1), -1);
         x.tooth(1, 9, false);
         Check.due("9 is there thrice", x.fill(0, 2), 9);
+        LaughDrum y = Check.told("box a 1 1 1 1 6 6 6 6 7 7;box b 1 1 2 2 2 2 2 2 2 2;kin b a;tooth b 2;");
+        Check.due("of kin with the first box", y.fill(1, 2), 6);
     }
 
     private static void join() {
@@ -86,6 +89,12 @@ final class HeardTest {
         Check.due("a first then", x.join(3, 0), 0);
         Check.due("seven at most", x.join(12, 6), 9);
         Check.due("all", x.join(15, 6), 18);
+        LaughDrum six = Check.told("box a 1 1 5 5 5 5 5 5 6 6;box b 1 1 4 4 4 4 4 4 5 5;box c 1 1 3 3 3 3 3 3 4 4;"
+            + "box d 1 1 2 2 2 2 2 2 3 3;box e 1 1 1 1 1 1 1 1 2 2;box f 1 1 9 9 9 9 9 9 1 1;");
+        Check.due("six", six.join(63, 6), 38);
+        for (int i = 0; i < 6; i++) {
+            Check.due("six at " + i, six.join(63, i), 5 - i);
+        }
     }
 
     private static void duet() {
@@ -96,6 +105,7 @@ final class HeardTest {
         // c sounds 1 at minutes 2, 3, 18, 19, ..; a at 0, 8, 16, ..
         Check.due("duet(0, 2)", x.duet(0, 2), -2);
         Check.due("silence", x.duet(2, 3), -2);
+        Check.due("at once", Check.told("box a 1 1 1 2 3 4 5 6 7 8;box b 1 9 1 0 0 0 0 0 0 0;").duet(1, 0), 0);
         Check.due("duet(0, 0)", x.duet(0, 0), -1);
         Check.due("duet(0, 4)", x.duet(0, 4), -1);
         Check.due("duet(-1, 0)", x.duet(-1, 0), -1);

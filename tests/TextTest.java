@@ -220,6 +220,8 @@ final class TextTest {
         Check.faulty(knots + "law sour not not", 2, knots.length() + 13);
         Check.faulty(knots + "law sour not and", 1, knots.length() + 13);
         Check.faulty(knots + "law sour 0;law charm year", 2, knots.length() + 21);
+        Check.faulty("law sour 0" + "+1".repeat(32) + ";", 2, 73);
+        Check.faulty("law sour not 0" + "+1".repeat(31) + "<0;", 2, 76);
         Check.due("brackets are no knots", Check.told("law sour (((1)+(2)));").count(3), 3);
     }
 }

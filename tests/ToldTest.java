@@ -139,6 +139,14 @@ final class ToldTest {
         worth("4 > 4", 0);
         worth("5 > 4", 1);
         worth("1 + 1 = 2", 1);
+        worth("1 < 2 + 3", 1);
+        worth("5 > 2 - 9", 1);
+        worth("0 = 1 * 2", 0);
+        worth("9 - 2 + 3", 10);
+        worth("9 + 2 - 3 * 2 / 4", 10);
+        worth("2 > 1 and 1", 1);
+        worth("1 and 2 > 3", 0);
+        worth("not 1 or 1", 1);
         worth("not 5", 0);
         worth("not 0", 1);
         worth("not not 5", 1);

@@ -52,6 +52,11 @@ final class YearsTest {
     }
 
     private static void dampByOdds() {
+        LaughDrum one = Check.told("box a 99 1 1 1 1 1 1 1 1 1;damp 1;seed 0;");
+        one.years(1);
+        Check.due("odds 1, number 0", one.count(9), 1);
+        one.years(2);
+        Check.due("odds 1, later ones", one.count(9), 1);
         int[] none = {0, 100};
         for (int odds : none) {
             LaughDrum x = Check.told(TWO + "damp " + odds + ";seed 7;");
@@ -181,6 +186,8 @@ final class YearsTest {
         Check.due("in 5", x.runDown(5), 3);
         x.steal(0, true);
         Check.due("stolen", x.runDown(99), 2);
+        x.years(2);
+        Check.due("at spring 1", x.runDown(1), 2);
         Check.due("in 100", x.runDown(100), -1);
         Check.due("in -1", x.runDown(-1), -1);
     }
@@ -211,6 +218,10 @@ final class YearsTest {
         Check.due("always damp, not more", Check.told(TWO + "damp 100;").chance(0, 9, 0, 10), 0);
         Check.due("never damp", Check.told(TWO).chance(0, 9, 0, 1), 0);
         Check.due("nothing went by", x.count(4), 0);
+        LaughDrum y = Check.told(TWO + "damp 100;law sour year;");
+        y.years(2);
+        Check.due("false by the years ahead", y.chance(0, 3, 0, 1 + 2 + 3 + 4), 10);
+        Check.due("not more by them", y.chance(0, 3, 0, 1 + 2 + 3 + 4 + 1), 0);
     }
 
     private static void tried() {
