@@ -1,22 +1,73 @@
-/** What the tests share: feeding texts and counting answers that are not due. */
-final class Check {
+import java.util.ArrayList;
+import java.util.List;
+import java.util.NoSuchElementException;
+import java.util.function.IntToLongFunction;
+
+/** What the tests share: sentences of the document, feeding texts, counting answers that are not due. */
+class Check {
     static final int NONE = -1;
+    private static final List<Sentence> SENTENCES = new ArrayList<>();
+    private static Sentence now = null;
     private static int asked = 0;
     private static int wrong = 0;
 
-    private Check() {
+    /** A sentence that a test quotes, and how many answers the test asks for it. */
+    static final class Sentence {
+        final String where;
+        final String words;
+        int asked;
+        int wrong;
+
+        Sentence(String where, String words) {
+            this.where = where;
+            this.words = words;
+        }
+    }
+
+    Check() {
+    }
+
+    /** From here on it is a sentence of that heading of the document that is tested. */
+    static void says(String where, String words) {
+        now = new Sentence(where, words);
+        SENTENCES.add(now);
+    }
+
+    static void saysNoMore() {
+        now = null;
+    }
+
+    static List<Sentence> sentences() {
+        return SENTENCES;
     }
 
     static void due(String call, long got, long want) {
         asked++;
+        if (now != null) {
+            now.asked++;
+        }
         if (got != want) {
             wrong++;
-            System.out.println(call + " answered " + got + ", due is " + want);
+            if (now != null) {
+                now.wrong++;
+            }
+            String about = now == null ? "" : now.where + ", \"" + now.words + "\": ";
+            System.out.println(about + call + " answered " + got + ", due is " + want);
         }
     }
 
     static void due(String call, boolean got, boolean want) {
         due(call, got ? 1 : 0, want ? 1 : 0);
+    }
+
+    /** The last numbers inside are such ones, the first beyond and the farthest are none. */
+    static void within(String call, IntToLongFunction ask, int least, int most, long none) {
+        due(call + " of the least, " + least, ask.applyAsLong(least) != none, true);
+        due(call + " of the most, " + most, ask.applyAsLong(most) != none, true);
+        due(call + " below the least, " + (least - 1), ask.applyAsLong(least - 1), none);
+        due(call + " above the most, " + (most + 1), ask.applyAsLong(most + 1), none);
+        due(call + " of the least int", ask.applyAsLong(Integer.MIN_VALUE), none);
+        due(call + " of the most int", ask.applyAsLong(Integer.MAX_VALUE), none);
     }
 
     /** Feeds a text, with blanks behind it up to the next twenty bytes. */
@@ -58,12 +109,39 @@ final class Check {
         due("fault(1) of '" + text + "'", drum.fault(1), place);
     }
 
+    /** The text without its mark ^ must have that fault where the mark was. */
+    static void marked(String text, int fault) {
+        int place = text.indexOf('^');
+        faulty(text.substring(0, place) + text.substring(place + 1), fault, place);
+    }
+
+    /** Boxes a, b, .. of spring 1 and slow 1 with these pins. */
+    static String drums(String... pins) {
+        StringBuilder text = new StringBuilder();
+        for (int i = 0; i < pins.length; i++) {
+            text.append("box ").append((char) ('a' + i)).append(" 1 1 ").append(String.join(" ", pins[i].split(""))).append(';');
+        }
+        return text.toString();
+    }
+
     static int letters(String word) {
         int bits = 0;
         for (int i = 0; i < 6; i++) {
             bits = bits << 5 | (i < word.length() ? word.charAt(i) - 96 : 0);
         }
         return bits;
+    }
+
+    /** What box throws. 1: IndexOutOfBoundsException, 2: NoSuchElementException, 0: nothing. */
+    static int thrown(LaughDrum drum, int box, int what) {
+        try {
+            drum.box(box, what);
+            return 0;
+        } catch (IndexOutOfBoundsException e) {
+            return 1;
+        } catch (NoSuchElementException e) {
+            return 2;
+        }
     }
 
     static void end() {
