@@ -30,7 +30,7 @@ final class SaysAlike extends Check {
     }
 
     private static void alikeOfTerms() {
-        says("Terms", "ALIKE of two BOXES by a TURN 0 .. 7: at how many places k of eight what is HEARD of the first one at k and of the second one at (k and TURN modulo 8) is the same and above 0.");
+        says("Terms for promise 17", "ALIKE of two BOXES by a TURN 0 .. 7: at how many places k of eight what is HEARD of the first one at k and of the second one at (k and TURN modulo 8) is the same and above 0.");
         LaughDrum x = told(TURNED + "box c 1 1 0 0 0 0 0 0 0 0;box d 1 1 1 2 3 4 5 6 7 0;");
         for (int turn = 0; turn < 8; turn++) {
             due("itself by " + turn, x.alike(0, 0, turn), turn == 0 ? 8 : 0);
@@ -65,7 +65,7 @@ final class SaysAlike extends Check {
     }
 
     private static void likeOfTerms() {
-        says("Terms", "LIKE: the TURN by which that is most, the first of several.");
+        says("Terms for promise 18", "LIKE: the TURN by which that is most, the first of several.");
         LaughDrum x = told(TURNED + "box c 1 1 0 0 0 0 0 0 0 0;box d 1 1 1 2 1 2 1 2 1 2;box e 1 1 2 1 2 1 2 1 2 1;box f 1 1 1 1 1 1 1 1 1 1;");
         due("1 alone", x.like(0, 1, 0), 1);
         due("7 alone", x.like(1, 0, 0), 7);
@@ -91,7 +91,7 @@ final class SaysAlike extends Check {
     }
 
     private static void fillOfTerms() {
-        says("Terms", "FILL of a BOX and a TOOTH 1 .. 9 that is MISSING: the number 1 .. 9 that, HEARD at all places where the drum has that PIN, makes ALIKE by TURN 0 with all its KIN most in sum,");
+        says("Terms for promise 20", "FILL of a BOX and a TOOTH 1 .. 9 that is MISSING: the number 1 .. 9 that, HEARD at all places where the drum has that PIN, makes ALIKE by TURN 0 with all its KIN most in sum,");
         String kin = "box b 1 1 1 9 9 2 7 7 7 7;box c 1 1 9 9 9 9 9 9 9 9;kin b a;";
         due("of its kin alone", told("box a 1 1 1 3 3 3 4 4 4 4;" + kin + "tooth a 3;").fill(0, 3), 9);
         due("another pin", told("box a 1 1 1 3 3 3 4 4 4 4;" + kin + "tooth a 4;").fill(0, 4), 7);
@@ -114,7 +114,7 @@ final class SaysAlike extends Check {
     }
 
     private static void fillOfSeveral() {
-        says("Terms", "of several the least.");
+        says("Terms for promise 20", "of several the least.");
         due("without kin", told("box a 1 1 3 3 3 3 3 3 3 3;box b 1 1 7 7 7 7 7 7 7 7;tooth a 3;").fill(0, 3), 1);
         due("without such a pin", told("box a 1 1 3 3 3 3 3 3 3 3;box b 1 1 7 7 7 7 7 7 7 7;kin a b;tooth a 2;").fill(0, 2), 1);
         due("kin without a sound there", told("box a 1 1 3 3 1 1 1 1 1 1;box b 1 1 0 0 7 7 7 7 7 7;kin a b;tooth a 3;").fill(0, 3), 1);
@@ -140,7 +140,7 @@ final class SaysAlike extends Check {
     }
 
     private static void joinInOrder() {
-        says("Terms", "JOIN of BOXES (bits): all one behind another, in an order,");
+        says("Terms for promise 21", "JOIN of BOXES (bits): all one behind another, in an order,");
         LaughDrum x = told("box a 1 1 1 1 1 1 1 1 1 1;box b 1 1 2 2 2 2 2 2 2 2;box c 1 1 3 3 3 3 3 3 3 3;"
             + "box d 1 1 4 4 4 4 4 4 4 4;box e 1 1 5 5 5 5 5 5 5 5;box f 1 1 6 6 6 6 6 6 6 6;");
         for (int boxes = 0; boxes < 64; boxes++) {
@@ -162,7 +162,7 @@ final class SaysAlike extends Check {
     }
 
     private static void joinLaid() {
-        says("Terms", "each laid on the last ones HEARD of the one ahead (as many, 7 at most, as are the same as its first ones, 0 too),");
+        says("Terms for promise 21", "each laid on the last ones HEARD of the one ahead (as many, 7 at most, as are the same as its first ones, 0 too),");
         laid("1 2 3 4 5 6 7 8", "9 9 9 9 9 9 9 9", 16, 0);
         laid("1 2 3 4 5 6 7 8", "8 9 9 9 9 9 9 9", 15, 0);
         laid("8 9 9 9 9 9 9 9", "1 2 3 4 5 6 7 8", 15, 1);
@@ -186,7 +186,7 @@ final class SaysAlike extends Check {
     }
 
     private static void joinShortest() {
-        says("Terms", "so that the row is shortest, of several the first by BOXES.");
+        says("Terms for promise 21", "so that the row is shortest, of several the first by BOXES.");
         LaughDrum x = told("box a 1 1 5 6 7 8 1 1 1 1;box b 1 1 1 1 1 2 3 4 5 6;box c 1 1 1 1 1 1 1 1 1 1;");
         // laid on one another: b on a three, a on b two, c on a four, b on c three
         int[][] due = {{3, 13, 0, 1}, {5, 12, 0, 2}, {6, 13, 2, 1}, {7, 17, 0, 2, 1}};
@@ -283,7 +283,7 @@ final class SaysAlike extends Check {
     }
 
     private static void duetOfMinutes() {
-        says("Terms", "DUET of two BOXES set off at minute 0: a BOX's k-th (0 up, again from the first one on) begins at minute k times SLOW and sounds SLOW minutes:");
+        says("Terms for promise 22", "DUET of two BOXES set off at minute 0: a BOX's k-th (0 up, again from the first one on) begins at minute k times SLOW and sounds SLOW minutes:");
         due("at minute 0", told("box a 1 1 1 2 3 4 5 6 7 8;box b 1 9 1 0 0 0 0 0 0 0;").duet(1, 0), 0);
         // b sounds 8 at minutes 9 .. 17, a at 7, 15, ..
         LaughDrum x = told("box a 1 1 1 2 3 4 5 6 7 8;box b 1 9 9 8 9 9 9 9 9 9;");
@@ -299,7 +299,7 @@ final class SaysAlike extends Check {
     }
 
     private static void duetByThen() {
-        says("Terms", "the first minute, 999 at most, in which both sound the same above 0.");
+        says("Terms for promise 22", "the first minute, 999 at most, in which both sound the same above 0.");
         // all comes again in 576 minutes at most, so none of two drums can meet later than these do
         due("never the same", told("box a 1 9 0 0 0 0 0 0 0 1;box b 1 8 0 0 0 0 0 0 2 0;").duet(0, 1), -2);
         due("the latest that can be", told("box a 1 9 0 0 0 0 0 0 0 2;box b 1 8 0 0 0 0 0 0 2 0;").duet(0, 1), 496);
@@ -328,7 +328,7 @@ final class SaysAlike extends Check {
     }
 
     private static void treeOfTerms() {
-        says("Terms", "TREE: the KIN there would be, if each BOX were led to all others by the fewest unlike places in sum (8 less ALIKE by TURN 0, both ways the same): that sum.");
+        says("Terms for promise 23", "TREE: the KIN there would be, if each BOX were led to all others by the fewest unlike places in sum (8 less ALIKE by TURN 0, both ways the same): that sum.");
         LaughDrum x = told("box a 1 1 1 1 1 1 2 2 2 2;box b 1 1 1 1 1 1 3 3 3 3;box c 1 1 4 4 4 4 3 3 3 3;"
             + "box d 1 1 1 1 1 5 3 3 3 3;");
         // a-b 4, a-c 8, a-d 5, b-c 4, b-d 1, c-d 4
@@ -355,7 +355,7 @@ final class SaysAlike extends Check {
     }
 
     private static void quoteOfTerms() {
-        says("Terms", "QUOTE: how long the longest run of places of a BOX is, all HEARD above 0, that is HEARD in a row of places of the other one, too (neither goes around).");
+        says("Terms for promise 34", "QUOTE: how long the longest run of places of a BOX is, all HEARD above 0, that is HEARD in a row of places of the other one, too (neither goes around).");
         LaughDrum x = told("box a 1 1 1 2 3 0 5 6 7 8;box b 1 1 5 6 7 8 0 1 2 3;box c 1 1 8 1 2 0 3 0 5 6;"
             + "box d 1 1 0 0 0 0 0 0 0 0;box e 1 1 1 2 3 0 5 6 7 8;");
         due("four at other places", x.quote(0, 1), 4);
@@ -385,7 +385,7 @@ final class SaysAlike extends Check {
     }
 
     private static void forgedOfTerms() {
-        says("Terms", "FORGED: BOXES (bits) that are ALIKE by TURN 0 at 6 places or more with one that isn't KIN.");
+        says("Terms for promise 25", "FORGED: BOXES (bits) that are ALIKE by TURN 0 at 6 places or more with one that isn't KIN.");
         String a = "box a 1 1 1 2 3 4 5 6 7 8;";
         due("8", told(a + "box b 1 1 1 2 3 4 5 6 7 8;").forged(), 3);
         due("6", told(a + "box b 1 1 9 9 3 4 5 6 7 8;").forged(), 3);

@@ -41,14 +41,14 @@ final class SaysFaults extends Check {
     }
 
     private static void boxes() {
-        says("Terms", "BOXES, at most 6:");
+        says("Terms for promise 3", "BOXES, at most 6:");
         due("six", told(SIX).count(0), 6);
         due("none", told("").count(0), 0);
         marked(SIX + "^box g 1 1 1 1 1 1 1 1 1 1;", 2);
     }
 
     private static void springs() {
-        says("Terms", "SPRING 0 .. 99,");
+        says("Terms for promise 3", "SPRING 0 .. 99,");
         due("0", told("box a 0 1 1 1 1 1 1 1 1 1;").box(0, 0), 0);
         due("99", told("box a 99 1 1 1 1 1 1 1 1 1;").box(0, 0), 99);
         marked("box a ^100 1 1 1 1 1 1 1 1 1;", 2);
@@ -56,7 +56,7 @@ final class SaysFaults extends Check {
     }
 
     private static void slows() {
-        says("Terms", "SLOW 1 .. 9,");
+        says("Terms for promise 3", "SLOW 1 .. 9,");
         due("1", told("box a 1 1 1 1 1 1 1 1 1 1;").box(0, 1), 1);
         due("9", told("box a 1 9 1 1 1 1 1 1 1 1;").box(0, 1), 9);
         marked("box a 1 ^0 1 1 1 1 1 1 1 1;", 2);
@@ -64,7 +64,7 @@ final class SaysFaults extends Check {
     }
 
     private static void pins() {
-        says("Terms", "then eight PINS 0 .. 9 (0: none).");
+        says("Terms for promise 3", "then eight PINS 0 .. 9 (0: none).");
         for (int k = 0; k < 8; k++) {
             String ahead = "box a 1 1" + " 4".repeat(k);
             String behind = " 4".repeat(7 - k) + ";";
@@ -78,7 +78,7 @@ final class SaysFaults extends Check {
     }
 
     private static void teeth() {
-        says("Terms", "tooth: of a BOX the TOOTH 1 .. 9 is MISSING");
+        says("Terms for promise 3", "tooth: of a BOX the TOOTH 1 .. 9 is MISSING");
         due("1", told(BOX_A + "tooth a 1;").box(0, 6), 1 << 1);
         due("9", told(BOX_A + "tooth a 9;").box(0, 6), 1 << 9);
         due("of that box alone", told(BOX_A + BOX_B + "tooth b 9;").box(0, 6), 0);
@@ -87,7 +87,7 @@ final class SaysFaults extends Check {
     }
 
     private static void teethOnce() {
-        says("Terms", "(each of both once; at most 12 in all).");
+        says("Terms for promise 3", "(each of both once; at most 12 in all).");
         told(BOX_A + BOX_B + "tooth a 1;tooth b 1;tooth a 2;");
         marked(BOX_A + BOX_B + "tooth a 1;tooth b 1;tooth a ^1;", 3);
         String twelve = SIX + SaysText.TWELVE_TEETH;
@@ -99,13 +99,13 @@ final class SaysFaults extends Check {
     }
 
     private static void kin() {
-        says("Terms", "KIN, at most 9:");
+        says("Terms for promise 3", "KIN, at most 9:");
         due("nine", told(SIX + SaysText.NINE_KIN).count(1), 9);
         marked(SIX + SaysText.NINE_KIN + "^kin c d;", 2);
     }
 
     private static void kinUnlike() {
-        says("Terms", "of two unlike BOXES (each two once, either way).");
+        says("Terms for promise 3", "of two unlike BOXES (each two once, either way).");
         due("either way", told(BOX_A + BOX_B + "kin b a;").kin(0, 1), 1);
         due("either way round", told(BOX_A + BOX_B + "kin b a;").kin(1, 0), 1);
         told(SIX + "kin a b;kin a c;kin c b;");
@@ -115,13 +115,13 @@ final class SaysFaults extends Check {
     }
 
     private static void guests() {
-        says("Terms", "GUESTS, at most 5:");
+        says("Terms for promise 3", "GUESTS, at most 5:");
         due("five", told(SaysText.FIVE_GUESTS).count(2), 5);
         marked(SaysText.FIVE_GUESTS + "^guest f 1 1;", 2);
     }
 
     private static void waitsAndDegrees() {
-        says("Terms", "WAIT 0 .. 99, DEGREE 0 .. 9.");
+        says("Terms for promise 3", "WAIT 0 .. 99, DEGREE 0 .. 9.");
         LaughDrum x = told("guest g 0 9;guest h 99 0;");
         due("wait 0", x.guest(0, 0), 0);
         due("degree 9", x.guest(0, 1), 9);
@@ -132,7 +132,7 @@ final class SaysFaults extends Check {
     }
 
     private static void damp() {
-        says("Terms", "damp: of a hundred 0 .. 100 (0).");
+        says("Terms for promise 3", "damp: of a hundred 0 .. 100 (0).");
         for (int seed = 0; seed < 40; seed++) {
             LaughDrum never = told(BOX_A + "damp 0;seed " + seed + ";");
             LaughDrum always = told(BOX_A + "damp 100;seed " + seed + ";");
@@ -152,7 +152,7 @@ final class SaysFaults extends Check {
     }
 
     private static void seed() {
-        says("Terms", "seed: 0 .. 99999 (0).");
+        says("Terms for promise 3", "seed: 0 .. 99999 (0).");
         int[] seeds = {0, 1, 99998, 99999};
         for (int seed : seeds) {
             LaughDrum x = told(BOX_A + "damp 50;seed " + seed + ";");
@@ -179,7 +179,7 @@ final class SaysFaults extends Check {
     }
 
     private static void numbered() {
-        says("Terms", "All numbered as they come;");
+        says("Terms for promise 5", "All numbered as they come;");
         LaughDrum x = told("box f 1 1 1 1 1 1 1 1 1 1;guest z 1 1;box e 2 1 1 1 1 1 1 1 1 1;guest a 2 2;"
             + "box d 3 1 1 1 1 1 1 1 1 1;box c 4 1 1 1 1 1 1 1 1 1;box b 5 1 1 1 1 1 1 1 1 1;box a 6 1 1 1 1 1 1 1 1 1;");
         for (int box = 0; box < 6; box++) {
@@ -194,7 +194,7 @@ final class SaysFaults extends Check {
     }
 
     private static void kindsOfNames() {
-        says("Terms", "BOXES, GUESTS have names of their kind.");
+        says("Terms for promise 5", "BOXES, GUESTS have names of their kind.");
         LaughDrum x = told(BOX_B + BOX_A + "guest a 1 1;guest b 1 1;");
         due("box a", x.named(0, letters("a")), 1);
         due("guest a", x.named(1, letters("a")), 0);
@@ -205,7 +205,7 @@ final class SaysFaults extends Check {
     }
 
     private static void firstAlongTheText() {
-        says("Terms", "FAULTS, the first along the text (of one place the least), with its place:");
+        says("Terms for promise 4", "FAULTS, the first along the text (of one place the least), with its place:");
         marked("damp ^101;seed 100000;?", 2);
         marked("seed ^100000;damp 101;?", 2);
         marked("damp 1 ^?;seed 100000;", 1);
@@ -229,7 +229,7 @@ final class SaysFaults extends Check {
     }
 
     private static void tokens() {
-        says("Terms", "1 a TOKEN that is none (a word of more than 6 letters that isn't of the language, too)");
+        says("Terms for promise 4", "1 a TOKEN that is none (a word of more than 6 letters that isn't of the language, too)");
         String[] none = {"?", "!", "A", "Z", "_", "\t", "\u0000", "\u007f", "\u0080", "\u00e4", "\u00ff", ",", ".", ":", "'",
             "\"", "[", "]", "{", "%", "&", "|", "abcdefg", "springs", "abcdefghijklmnopqrstuvwxyz", "toothss"};
         for (String token : none) {
@@ -248,7 +248,7 @@ final class SaysFaults extends Check {
     }
 
     private static void cannotStand() {
-        says("Terms", "or can't stand there");
+        says("Terms for promise 4", "or can't stand there");
         for (String word : SaysText.LANGUAGE) {
             boolean begins = "box tooth kin guest damp seed law".contains(word) && !word.equals("or");
             marked(begins ? word + " ^" + word : "^" + word, 1);
@@ -274,7 +274,7 @@ final class SaysFaults extends Check {
     }
 
     private static void moreMustCome() {
-        says("Terms", "(the length, if more must come).");
+        says("Terms for promise 4", "(the length, if more must come).");
         String[] lines = {BOX_A + "", BOX_A + "tooth a 1;", BOX_A + BOX_B + "kin a b;", "guest g 1 1;", "damp 1;", "seed 1;",
             "law wear not (1 + spring) * 2 <= 3 and year or 4;"};
         for (String text : lines) {
@@ -298,7 +298,7 @@ final class SaysFaults extends Check {
     }
 
     private static void numbersBeyond() {
-        says("Terms", "2 too much (at it): a number beyond what is said,");
+        says("Terms for promise 4", "2 too much (at it): a number beyond what is said,");
         String[] ahead = {"box a ", "box a 1 ", "box a 1 1 ", "box a 1 1 1 1 1 1 1 1 1 ", BOX_A + "tooth a ", "guest g ",
             "guest g 1 ", "damp ", "seed ", "law wear ", "law wear 1 + "};
         int[] most = {99, 9, 9, 9, 9, 99, 9, 100, 99999, 9999, 9999};
@@ -318,7 +318,7 @@ final class SaysFaults extends Check {
     }
 
     private static void seventhAndSoOn() {
-        says("Terms", "a seventh box and so on (at the word of the LINE),");
+        says("Terms for promise 4", "a seventh box and so on (at the word of the LINE),");
         String full = SIX + SaysText.TWELVE_TEETH + SaysText.NINE_KIN + SaysText.FIVE_GUESTS;
         due("as many as there may be", text(new LaughDrum(), full), 32);
         String[] words = {"box", "tooth", "kin", "guest"};
@@ -333,7 +333,7 @@ final class SaysFaults extends Check {
     }
 
     private static void ninthOpen() {
-        says("Terms", "a ninth '(' open,");
+        says("Terms for promise 4", "a ninth '(' open,");
         told("law wear ((((((((1))))))));");
         told("law wear ((((((((1))))))))+(((((((( 1))))))));");
         told("law wear (((((((1+(2))+(3)))))));");
@@ -350,7 +350,7 @@ final class SaysFaults extends Check {
     }
 
     private static void knots() {
-        says("Terms", "a 65th KNOT of all E");
+        says("Terms for promise 4", "a 65th KNOT of all E");
         due("64 of one", told("law wear " + sum(64) + ";").count(3), 64);
         due("64 of two", told("law wear " + sum(31) + ";law sour " + sum(33) + ";").count(3), 64);
         due("64 of three", told("law wear " + sum(20) + ";law sour " + sum(22) + ";law charm " + sum(22) + ";").count(3), 64);
@@ -364,7 +364,7 @@ final class SaysFaults extends Check {
     }
 
     private static void kindsOfKnots() {
-        says("Terms", "(N, NAMES, signs, not, and, or: one each).");
+        says("Terms for promise 4", "(N, NAMES, signs, not, and, or: one each).");
         due("N", told("law wear 9999;").count(3), 1);
         due("brackets are none", told("law wear ((((7))));").count(3), 1);
         due("not", told("law wear not not 7;").count(3), 3);
@@ -385,7 +385,7 @@ final class SaysFaults extends Check {
     }
 
     private static void nameTwice() {
-        says("Terms", "3 told already: a name of its kind (at W),");
+        says("Terms for promise 4", "3 told already: a name of its kind (at W),");
         told("box abcdef 1 1 1 1 1 1 1 1 1 1;box abcdee 1 1 1 1 1 1 1 1 1 1;box abcde 1 1 1 1 1 1 1 1 1 1;");
         marked("box abcdef 1 1 1 1 1 1 1 1 1 1;box ^abcdef", 3);
         marked(BOX_A + BOX_B + "box ^b 1 1 1 1 1 1 1 1 1 1;", 3);
@@ -394,7 +394,7 @@ final class SaysFaults extends Check {
     }
 
     private static void toothTwice() {
-        says("Terms", "a TOOTH of the same BOX (at its number),");
+        says("Terms for promise 4", "a TOOTH of the same BOX (at its number),");
         told(BOX_A + BOX_B + "tooth a 7;tooth b 7;tooth a 8;");
         marked(BOX_A + "tooth a 7;tooth a ^7;", 3);
         marked(BOX_A + "tooth a 7;tooth a ^0007", 3);
@@ -402,7 +402,7 @@ final class SaysFaults extends Check {
     }
 
     private static void kinTwice() {
-        says("Terms", "KIN of the same two (at the second W),");
+        says("Terms for promise 4", "KIN of the same two (at the second W),");
         told(SIX + "kin a b;kin b c;kin c a;");
         marked(BOX_A + BOX_B + "kin a b;kin a ^b;", 3);
         marked(BOX_A + BOX_B + "kin a b;kin b ^a", 3);
@@ -410,7 +410,7 @@ final class SaysFaults extends Check {
     }
 
     private static void dampAndSeedTwice() {
-        says("Terms", "damp, seed (at the word),");
+        says("Terms for promise 4", "damp, seed (at the word),");
         told("damp 0;seed 0;");
         marked("damp 0;^damp 0;", 3);
         marked("damp 0;^damp", 3);
@@ -421,7 +421,7 @@ final class SaysFaults extends Check {
     }
 
     private static void lawTwice() {
-        says("Terms", "a law of its LAW (at LAW).");
+        says("Terms for promise 4", "a law of its LAW (at LAW).");
         told("law sour 1;law wear 1;law charm 1;");
         String[] laws = {"wear", "sour", "charm"};
         for (String law : laws) {
@@ -434,7 +434,7 @@ final class SaysFaults extends Check {
     }
 
     private static void notTold() {
-        says("Terms", "4 a BOX that isn't told ahead (at W).");
+        says("Terms for promise 4", "4 a BOX that isn't told ahead (at W).");
         told(BOX_A + "tooth a 1;");
         marked("tooth ^a 1;" + BOX_A, 4);
         marked("tooth ^a", 4);
@@ -449,7 +449,7 @@ final class SaysFaults extends Check {
     }
 
     private static void withItself() {
-        says("Terms", "5 KIN of a BOX with itself (at the second W).");
+        says("Terms for promise 4", "5 KIN of a BOX with itself (at the second W).");
         told(BOX_A + BOX_B + "kin a b;");
         marked(BOX_A + BOX_B + "kin a ^a;", 5);
         marked(BOX_A + BOX_B + "kin a b;kin b ^b", 5);

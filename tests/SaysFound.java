@@ -23,7 +23,7 @@ final class SaysFound extends Check {
     }
 
     private static void whoseOfTerms() {
-        says("Terms", "WHOSE: BOXES (bits) of which all that is KNOWN of what was FOUND is so.");
+        says("Terms for promise 19", "WHOSE: BOXES (bits) of which all that is KNOWN of what was FOUND is so.");
         LaughDrum x = told(THREE);
         due("nothing is known", x.whose(), 7);
         x.find(0, 1, true);
@@ -53,7 +53,7 @@ final class SaysFound extends Check {
     }
 
     private static void foundOfTerms() {
-        says("Terms", "FOUND, at most 24, numbered from 0 on: at a place 0 .. 7 so much 0 .. 9 is HEARD now, or isn't.");
+        says("Terms for promise 38", "FOUND, at most 24, numbered from 0 on: at a place 0 .. 7 so much 0 .. 9 is HEARD now, or isn't.");
         for (int place = 0; place < 8; place++) {
             for (int heard = 0; heard <= 9; heard++) {
                 LaughDrum x = told("box a 1 1 0 1 2 3 4 5 6 9;");
@@ -88,7 +88,7 @@ final class SaysFound extends Check {
     }
 
     private static void strikesOfTerms() {
-        says("Terms", "A STRIKE of one.");
+        says("Terms for promise 39", "A STRIKE of one.");
         LaughDrum x = told(THREE);
         x.find(0, 2, true);
         x.find(1, 3, true);
@@ -103,7 +103,7 @@ final class SaysFound extends Check {
     }
 
     private static void knownOfTerms() {
-        says("Terms", "KNOWN by n (all at first): the first n that aren't STRUCK by one of these");
+        says("Terms for promise 40", "KNOWN by n (all at first): the first n that aren't STRUCK by one of these");
         LaughDrum x = told(THREE);
         x.find(0, 2, true);
         due("all at first", x.whose(), 4);
@@ -123,7 +123,7 @@ final class SaysFound extends Check {
     }
 
     private static void struckStrikes() {
-        says("Terms", "(a STRIKE may be STRUCK: then it doesn't count; asked from the last one on).");
+        says("Terms for promise 40", "(a STRIKE may be STRUCK: then it doesn't count; asked from the last one on).");
         LaughDrum x = told(THREE);
         x.find(0, 2, true);
         int[] due = {7, 4, 7, 4, 7, 4};
@@ -160,7 +160,7 @@ final class SaysFound extends Check {
     }
 
     private static void askOfTerms() {
-        says("Terms", "ASK: for each place the most BOXES of WHOSE that have one and the same HEARD there (the worst case): the place by which that is least, the first of several.");
+        says("Terms for promise 31", "ASK: for each place the most BOXES of WHOSE that have one and the same HEARD there (the worst case): the place by which that is least, the first of several.");
         LaughDrum x = told("box a 9 1 1 2 3 4 0 5 6 7;box b 9 1 1 2 3 4 0 5 6 8;box c 9 1 1 2 4 5 0 9 9 9;box d 9 1 1 2 5 5 0 9 7 9;");
         due("place 2 of 2, 3, 5, 6, 7", x.ask(0), 2);
         due("two at worst", x.ask(1), 2);
@@ -203,7 +203,7 @@ final class SaysFound extends Check {
     }
 
     private static void soursOfTerms() {
-        says("Terms", "SOURS of a BOX: FALSE 0, 5, 10, .. 45 (bits 0 .. 9) in place of what it is, by which all KNOWN ones are so of it.");
+        says("Terms for promise 41", "SOURS of a BOX: FALSE 0, 5, 10, .. 45 (bits 0 .. 9) in place of what it is, by which all KNOWN ones are so of it.");
         for (int k = 0; k <= 9; k++) {
             LaughDrum x = told("box a 9 1 0 1 1 1 1 1 1 1;damp 100;");
             x.years(k * 11);

@@ -24,7 +24,7 @@ final class SaysKin extends Check {
     }
 
     private static void farOfTerms() {
-        says("Terms", "FAR of two BOXES: the fewest KIN from one to the other.");
+        says("Terms for promise 24", "FAR of two BOXES: the fewest KIN from one to the other.");
         LaughDrum ring = told(SIX + "kin a b;kin b c;kin c d;kin d e;kin e a;");
         int[] due = {0, 1, 2, 2, 1, -2};
         LaughDrum row = told(SIX + "kin f d;kin d b;kin b a;kin a c;kin c e;");
@@ -65,7 +65,7 @@ final class SaysKin extends Check {
     }
 
     private static void lineOfTerms() {
-        says("Terms", "LINE: the longest row of unlike BOXES, each KIN of the one ahead, of several the first by BOXES.");
+        says("Terms for promise 33", "LINE: the longest row of unlike BOXES, each KIN of the one ahead, of several the first by BOXES.");
         row("", 0);
         row("kin f e;", 4, 5);
         row("kin a b;kin a c;kin a d;", 1, 0, 2);
@@ -106,7 +106,7 @@ final class SaysKin extends Check {
     }
 
     private static void windOfTerms() {
-        says("Terms", "WIND for n YEARS and so many turns: by how many each of the first three BOXES is wound now (all no more than so many in sum; a SPRING is 99 at most),");
+        says("Terms for promise 27", "WIND for n YEARS and so many turns: by how many each of the first three BOXES is wound now (all no more than so many in sum; a SPRING is 99 at most),");
         String four = "box a 1 1 1 1 1 1 0 0 0 0;box b 2 1 1 1 1 1 1 0 0 0;box c 98 1 1 1 1 1 1 1 1 1;box d 2 1 1 1 0 0 0 0 0 0;";
         LaughDrum x = told(four);
         // in four years a laughs 4 once, b 5 twice, c 8 four times, d 2 twice
@@ -130,7 +130,7 @@ final class SaysKin extends Check {
     }
 
     private static void windMost() {
-        says("Terms", "so that LAUGHTER more of all in these YEARS as it goes is most, of several the first by BOXES (0 turns first).");
+        says("Terms for promise 27", "so that LAUGHTER more of all in these YEARS as it goes is most, of several the first by BOXES (0 turns first).");
         LaughDrum tie = told("box a 1 1 1 1 1 1 0 0 0 0;box b 1 1 1 1 1 1 0 0 0 0;box c 1 1 1 1 1 1 0 0 0 0;");
         wound(tie, 2, 1, 0, 0, 1, 16);
         wound(tie, 3, 3, 0, 1, 2, 24);
@@ -172,7 +172,10 @@ final class SaysKin extends Check {
         wound(x, 20, 9, 9, 0, 0, 45);
         wound(x, 5, 9, 4, 4, 1, 4 * 5 + 3 * 5 + 2 * 2);
         within("n", n -> x.winding(n, 9, 3), 1, 20, NONE);
-        within("turns", turns -> x.winding(1, turns, 3), 0, 9, NONE);
+        within("turns, laughter", turns -> x.winding(1, turns, 3), 0, 9, NONE);
+        within("turns, the first box's", turns -> x.winding(1, turns, 0), 0, 9, NONE);
+        LaughDrum six = told(SIX);
+        within("turns, laughter of six", turns -> six.winding(1, turns, 3), 0, 9, NONE);
         within("what", what -> x.winding(1, 1, what), 0, 3, NONE);
         String[] texts = {"", "box a 1 1 1 1 1 1 0 0 0 0;", "box a 1 1 1 1 1 1 0 0 0 0;box b 1 1 1 1 1 1 0 0 0 0;"};
         for (int boxes = 0; boxes < 3; boxes++) {
@@ -188,7 +191,7 @@ final class SaysKin extends Check {
     }
 
     private static void stayOfTerms() {
-        says("Terms", "STAY for BOXES that are let go one behind another: GUESTS (bits) whose WAIT is eight times all their SLOW in sum at least.");
+        says("Terms for promise 32", "STAY for BOXES that are let go one behind another: GUESTS (bits) whose WAIT is eight times all their SLOW in sum at least.");
         LaughDrum x = told(SLOW + "guest g 0 0;guest h 24 0;guest i 23 0;guest j 99 0;guest k 8 0;");
         due("a: 8", x.stay(1), 2 | 4 | 8 | 16);
         due("b: 16", x.stay(2), 2 | 4 | 8);
@@ -217,7 +220,7 @@ final class SaysKin extends Check {
     }
 
     private static void laughBackOfTerms() {
-        says("Terms", "LAUGH BACK: GUESTS (bits) who may at a BOX: those whose DEGREE is FAR of it from BOX 0 at least (nobody, if it isn't kin at all) and whose WAIT is eight times its SLOW at least.");
+        says("Terms for promise 28", "LAUGH BACK: GUESTS (bits) who may at a BOX: those whose DEGREE is FAR of it from BOX 0 at least (nobody, if it isn't kin at all) and whose WAIT is eight times its SLOW at least.");
         LaughDrum x = told(SLOW + "kin a b;kin b c;kin e d;guest g 16 0;guest h 16 1;guest i 24 2;guest j 23 9;guest k 7 9;");
         due("box 0: degree 0, wait 8", x.laughBack(0), 1 | 2 | 4 | 8);
         due("box 1: degree 1, wait 16", x.laughBack(1), 2 | 4 | 8);
@@ -258,7 +261,7 @@ final class SaysKin extends Check {
     }
 
     private static void key() {
-        says("Terms", "KEY of two heirs: each bids 0 .. 4 for a BOX: who bids more has LAUGHTER of it in this YEAR as it goes, less the bid; alike: each has half of it, cut, less the bid; who bids less has 0.");
+        says("Terms for promise 29", "KEY of two heirs: each bids 0 .. 4 for a BOX: who bids more has LAUGHTER of it in this YEAR as it goes, less the bid; alike: each has half of it, cut, less the bid; who bids less has 0.");
         for (int laughter = 0; laughter <= 99; laughter++) {
             LaughDrum x = told("box a 9 1 1 1 1 1 1 1 1 1;law charm " + laughter + ";");
             int k = 0;
@@ -294,7 +297,7 @@ final class SaysKin extends Check {
     }
 
     private static void restOfTerms() {
-        says("Terms", "A REST: neither would have more by another bid.");
+        says("Terms for promise 29", "A REST: neither would have more by another bid.");
         // of 2 each has 1 by 0 and 0, and would have 1 by a bid of 1 against 0: that is no more
         rests(0, 0);
         rests(2, 0, 1, 10, 11, 12, 21);
@@ -303,7 +306,7 @@ final class SaysKin extends Check {
     }
 
     private static void restsInOrder() {
-        says("Terms", "RESTS: by the first one's, then the second one's.");
+        says("Terms for promise 30", "RESTS: by the first one's, then the second one's.");
         rests(1, 0, 1, 10);
         rests(3, 12, 21, 23, 32);
         rests(4, 23, 32, 34, 43);

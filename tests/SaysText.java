@@ -53,7 +53,7 @@ final class SaysText extends Check {
     }
 
     private static void linesOfText() {
-        says("Terms", "A TEXT: { LINE ';' }.");
+        says("Terms for promise 3", "A TEXT: { LINE ';' }.");
         due("no line", told("").count(0), 0);
         told("damp 1;");
         told("damp 1;seed 1;");
@@ -68,7 +68,7 @@ final class SaysText extends Check {
     }
 
     private static void kindsOfLine() {
-        says("Terms", "LINE: box W N N N N N N N N N N | tooth W N | kin W W | guest W N N | damp N | seed N | law LAW E.");
+        says("Terms for promise 3", "LINE: box W N N N N N N N N N N | tooth W N | kin W W | guest W N N | damp N | seed N | law LAW E.");
         told("box a 1 1 1 1 1 1 1 1 1 1;");
         marked("box a 1 1 1 1 1 1 1 1 1^;", 1);
         marked("box a 1 1 1 1 1 1 1 1 1 1 ^1;", 1);
@@ -106,7 +106,7 @@ final class SaysText extends Check {
     }
 
     private static void kindsOfLaw() {
-        says("Terms", "LAW: wear | sour | charm.");
+        says("Terms for promise 3", "LAW: wear | sour | charm.");
         LaughDrum x = told(BOX_A + "law wear 3;law sour 4;law charm 5;");
         for (int what = 0; what < 3; what++) {
             due("law(" + what + ", 0)", x.law(what, 0), 3 + what);
@@ -122,7 +122,7 @@ final class SaysText extends Check {
     }
 
     private static void words() {
-        says("Terms", "Words: small letters in a row;");
+        says("Terms for promise 3", "Words: small letters in a row;");
         due("a to z", told("box az 1 1 1 1 1 1 1 1 1 1;").named(0, letters("az")), 0);
         marked("box ^` 1 1 1 1 1 1 1 1 1 1;", 1);
         marked("box a^{ 1 1 1 1 1 1 1 1 1 1;", 1);
@@ -134,7 +134,7 @@ final class SaysText extends Check {
     }
 
     private static void ownNames() {
-        says("Terms", "W: one of 1 .. 6 letters, none of those of the language;");
+        says("Terms for promise 3", "W: one of 1 .. 6 letters, none of those of the language;");
         due("1 letter", told("box z 1 1 1 1 1 1 1 1 1 1;").named(0, letters("z")), 0);
         due("6 letters", told("box abcdef 1 1 1 1 1 1 1 1 1 1;").named(0, letters("abcdef")), 0);
         due("6 letters of a guest", told("guest zzzzzz 1 1;").named(1, letters("zzzzzz")), 0);
@@ -155,7 +155,7 @@ final class SaysText extends Check {
     }
 
     private static void digits() {
-        says("Terms", "N: digits.");
+        says("Terms for promise 3", "N: digits.");
         due("0 .. 9", told("guest g 01 2;guest h 34 5;guest i 67 8;guest j 90 0;").guest(2, 0), 67);
         due("zeros ahead", told("guest g 00000000000000000099 0009;").guest(0, 0), 99);
         marked("guest g ^0000000000000000000100 9;", 2);
@@ -170,7 +170,7 @@ final class SaysText extends Check {
     }
 
     private static void blanks() {
-        says("Terms", "Blanks 10, 32.");
+        says("Terms for promise 3", "Blanks 10, 32.");
         for (int sign = 0; sign < 256; sign++) {
             boolean isDigit = sign >= '0' && sign <= '9';
             boolean isLetter = sign >= 'a' && sign <= 'z';
@@ -192,7 +192,7 @@ final class SaysText extends Check {
     }
 
     private static void grammarOfTruth() {
-        says("Terms", "E: A { or A }. A: B { and B }. B: not B | C.");
+        says("Terms for promise 3", "E: A { or A }. A: B { and B }. B: not B | C.");
         worth("0", 0);
         worth("0 or 0 or 1", 1);
         worth("1 and 1 and 0", 0);
@@ -225,7 +225,7 @@ final class SaysText extends Check {
     }
 
     private static void grammarOfComparisons() {
-        says("Terms", "C: S [ ( < | <= | = | <> | >= | > ) S ].");
+        says("Terms for promise 3", "C: S [ ( < | <= | = | <> | >= | > ) S ].");
         int[][] due = {{1, 0, 0}, {1, 1, 0}, {0, 1, 0}, {1, 0, 1}, {0, 1, 1}, {0, 0, 1}};
         String[] signs = {"<", "<=", "=", "<>", ">=", ">"};
         for (int i = 0; i < signs.length; i++) {
@@ -254,7 +254,7 @@ final class SaysText extends Check {
     }
 
     private static void grammarOfSums() {
-        says("Terms", "S: T { ( + | - ) T }. T: P { ( * | / ) P }.");
+        says("Terms for promise 3", "S: T { ( + | - ) T }. T: P { ( * | / ) P }.");
         worth("1 + 2 * 3", 7);
         worth("(1 + 2) * 3", 9);
         worth("2 * 3 + 1", 7);
@@ -277,7 +277,7 @@ final class SaysText extends Check {
     }
 
     private static void operands() {
-        says("Terms", "P: N | NAME | '(' E ')';");
+        says("Terms for promise 3", "P: N | NAME | '(' E ')';");
         worth("7", 7);
         worth("spring", 5);
         worth("(7)", 7);
@@ -295,7 +295,7 @@ final class SaysText extends Check {
     }
 
     private static void numbersOfE() {
-        says("Terms", "N of E 0 .. 9999.");
+        says("Terms for promise 3", "N of E 0 .. 9999.");
         worth("0", 0);
         worth("9999", 9999);
         worth("00009999", 9999);
@@ -306,7 +306,7 @@ final class SaysText extends Check {
     }
 
     private static void namesOfE() {
-        says("Terms", "NAME: spring slow pins false teeth plays year.");
+        says("Terms for promise 3", "NAME: spring slow pins false teeth plays year.");
         for (String word : LANGUAGE) {
             if (String.join(" ", NAMES).contains(word)) {
                 told("law charm " + word + ";");
@@ -320,7 +320,7 @@ final class SaysText extends Check {
     }
 
     private static void signsOfTwo() {
-        says("Terms", "A = (or > behind <) right behind < or > belongs to it.");
+        says("Terms for promise 3", "A = (or > behind <) right behind < or > belongs to it.");
         worth("7<=7", 1);
         worth("7<>7", 0);
         worth("7>=7", 1);

@@ -32,7 +32,7 @@ final class SaysTold extends Check {
     }
 
     private static void silence() {
-        says("Terms", "HEARD of a PIN: 0, if it is 0 or its TOOTH is MISSING;");
+        says("Terms for promise 8", "HEARD of a PIN: 0, if it is 0 or its TOOTH is MISSING;");
         LaughDrum x = told("box a 9 1 0 1 2 3 7 8 9 0;tooth a 1;tooth a 9;damp 100;");
         int[] due = {0, 0, 2, 3, 7, 8, 0, 0};
         for (int k = 0; k < 8; k++) {
@@ -56,7 +56,7 @@ final class SaysTold extends Check {
     }
 
     private static void heardByFalse() {
-        says("Terms", "else the PIN and FALSE by 5, cut, 9 at most.");
+        says("Terms for promise 8", "else the PIN and FALSE by 5, cut, 9 at most.");
         int[] pins = {1, 2, 3, 4, 5, 6, 8, 9};
         for (int isFalse = 0; isFalse <= 99; isFalse++) {
             LaughDrum x = told("box a 9 1 1 2 3 4 5 6 8 9;damp 100;");
@@ -68,7 +68,7 @@ final class SaysTold extends Check {
     }
 
     private static void springAndSlow() {
-        says("Terms", "NAMES, of the BOX: spring: SPRING; slow: SLOW;");
+        says("Terms for promise 11", "NAMES, of the BOX: spring: SPRING; slow: SLOW;");
         LaughDrum x = told("box a 0 1 1 1 1 1 1 1 1 1;box b 99 9 1 1 1 1 1 1 1 1;law charm spring;law wear slow;");
         due("spring 0", x.law(2, 0), 0);
         due("spring 99", x.law(2, 1), 99);
@@ -82,7 +82,7 @@ final class SaysTold extends Check {
     }
 
     private static void pinsAsTold() {
-        says("Terms", "pins: how many of its eight are above 0 as told;");
+        says("Terms for promise 11", "pins: how many of its eight are above 0 as told;");
         for (int n = 0; n <= 8; n++) {
             due(n + " pins", told("box a 9 1" + " 1".repeat(n) + " 0".repeat(8 - n) + ";law charm pins;").law(2, 0), n);
             due(n + " pins behind", told("box a 9 1" + " 0".repeat(8 - n) + " 9".repeat(n) + ";law charm pins;").law(2, 0), n);
@@ -94,7 +94,7 @@ final class SaysTold extends Check {
     }
 
     private static void falseAndTeeth() {
-        says("Terms", "false: FALSE; teeth: how many of its TEETH are MISSING;");
+        says("Terms for promise 11", "false: FALSE; teeth: how many of its TEETH are MISSING;");
         LaughDrum x = told("box a 9 1 1 1 1 1 1 1 1 1;box b 9 1 1 1 1 1 1 1 1 1;tooth b 1;damp 100;law sour 9;law charm false;law wear teeth;");
         due("false 0", x.law(2, 0), 0);
         x.years(1);
@@ -112,7 +112,7 @@ final class SaysTold extends Check {
     }
 
     private static void plays() {
-        says("Terms", "plays: how often PLAYED (of charm, wear this one too);");
+        says("Terms for promise 11", "plays: how often PLAYED (of charm, wear this one too);");
         LaughDrum x = told("box a 99 1 1 1 1 1 1 1 1 1;damp 100;law charm plays;law wear plays;law sour plays;");
         due("charm asked ahead", x.law(2, 0), 0);
         due("wear asked ahead", x.law(0, 0), 0);
@@ -131,7 +131,7 @@ final class SaysTold extends Check {
     }
 
     private static void year() {
-        says("Terms", "year: the YEAR.");
+        says("Terms for promise 11", "year: the YEAR.");
         LaughDrum x = told("box a 99 1 1 1 1 1 1 1 1 1;damp 100;law charm year;law wear year;law sour year;");
         due("year 0", x.law(2, 0), 0);
         x.years(1);
@@ -150,7 +150,7 @@ final class SaysTold extends Check {
     }
 
     private static void longs() {
-        says("Terms", "VALUES are longs;");
+        says("Terms for promise 11", "VALUES are longs;");
         SaysText.worth("9999 * 9999 * 21", 2099580021L);
         SaysText.worth("9999 * 9999 * 22", 2199560022L);
         SaysText.worth("9999 * 9999 * 43", 4299140043L);
@@ -163,7 +163,7 @@ final class SaysTold extends Check {
     }
 
     private static void truths() {
-        says("Terms", "comparisons, and, or, not are 1 or 0 (what isn't 0 is as 1, both sides are worked out),");
+        says("Terms for promise 11", "comparisons, and, or, not are 1 or 0 (what isn't 0 is as 1, both sides are worked out),");
         String[] isSo = {"1 < 2", "2 <= 2", "2 = 2", "1 <> 2", "2 >= 2", "3 > 2", "2 and 4", "2 or 4", "4 or 0", "0 or 4",
             "(0 - 1) and 4", "0 or (0 - 4)", "not 0", "not not 7", "not not (0 - 7)"};
         String[] isNot = {"2 < 2", "3 <= 2", "1 = 2", "2 <> 2", "1 >= 2", "2 > 2", "0 and 4", "4 and 0", "0 and 0", "0 or 0",
@@ -184,7 +184,7 @@ final class SaysTold extends Check {
     }
 
     private static void division() {
-        says("Terms", "/ is cut towards 0;");
+        says("Terms for promise 11", "/ is cut towards 0;");
         SaysText.worth("7 / 2", 3);
         SaysText.worth("8 / 2", 4);
         SaysText.worth("1 / 2", 0);
@@ -198,7 +198,7 @@ final class SaysTold extends Check {
     }
 
     private static void byZero() {
-        says("Terms", "ERROR: / by 0,");
+        says("Terms for promise 11", "ERROR: / by 0,");
         SaysText.worth("1 / 0", ERROR);
         SaysText.worth("0 / 0", ERROR);
         SaysText.worth("0 / 1", 0);
@@ -215,7 +215,7 @@ final class SaysTold extends Check {
     }
 
     private static void valuesTooLarge() {
-        says("Terms", "a value above 10 to the 12 or below 0 by more than that.");
+        says("Terms for promise 11", "a value above 10 to the 12 or below 0 by more than that.");
         long trillion = 1000000000000L;
         SaysText.worth(TRILLION, trillion);
         SaysText.worth("0 - " + TRILLION, -trillion);

@@ -31,7 +31,7 @@ final class SaysUndo extends Check {
     }
 
     private static void whatCanBeUndone() {
-        says("Terms", "Winding, stealing, TEETH by call can be undone, the latest first");
+        says("Terms for promise 44", "Winding, stealing, TEETH by call can be undone, the latest first");
         LaughDrum x = told(TWO);
         String[] states = new String[7];
         int n = 0;
@@ -63,7 +63,7 @@ final class SaysUndo extends Check {
     }
 
     private static void undoneByTwenty() {
-        says("Terms", "(20 at most),");
+        says("Terms for promise 44", "(20 at most),");
         LaughDrum x = told(TWO);
         for (int i = 1; i <= 20; i++) {
             x.wind(0, 1);
@@ -131,7 +131,7 @@ final class SaysUndo extends Check {
     }
 
     private static void undoneInTheYear() {
-        says("Terms", "if no YEAR went by since.");
+        says("Terms for promise 44", "if no YEAR went by since.");
         LaughDrum x = told(TWO);
         x.wind(0, 1);
         due("years(0)", x.years(0), 0);
@@ -152,7 +152,7 @@ final class SaysUndo extends Check {
     }
 
     private static void imageOfAll() {
-        says("Terms", "An IMAGE keeps all");
+        says("Terms for promise 46", "An IMAGE keeps all");
         LaughDrum x = told(TWO + "law wear 1 + plays / 9;law charm spring;");
         x.years(3);
         x.steal(1, true);
@@ -186,7 +186,7 @@ final class SaysUndo extends Check {
     }
 
     private static void imageWithoutFound() {
-        says("Terms", "but what was FOUND.");
+        says("Terms for promise 46", "but what was FOUND.");
         LaughDrum x = told(TWO);
         x.find(0, 1, true);
         x.keep();

@@ -37,7 +37,7 @@ final class SaysYears extends Check {
     }
 
     private static void letGo() {
-        says("Terms", "A YEAR: (1) by numbers each BOX that isn't STOLEN and has SPRING above 0 is let go: once more PLAYED;");
+        says("Terms for promise 15", "A YEAR: (1) by numbers each BOX that isn't STOLEN and has SPRING above 0 is let go: once more PLAYED;");
         LaughDrum x = told("box a 0 1 1 1 1 1 1 1 1 1;box b 1 1 1 1 1 1 1 1 1 1;box c 9 1 1 1 1 1 1 1 1 1;box d 9 1 1 1 1 1 1 1 1 1;");
         x.steal(3, true);
         x.years(1);
@@ -67,7 +67,7 @@ final class SaysYears extends Check {
     }
 
     private static void charm() {
-        says("Terms", "LAUGHTER is more by E of charm (0 .. 99;");
+        says("Terms for promise 15", "LAUGHTER is more by E of charm (0 .. 99;");
         byLaw("charm", 0, 4, 0);
         byLaw("charm", 1, 4, 1);
         byLaw("charm", 98, 4, 98);
@@ -91,7 +91,7 @@ final class SaysYears extends Check {
     }
 
     private static void charmWithout() {
-        says("Terms", "how many of its eight are HEARD above 0, without, with an ERROR);");
+        says("Terms for promise 15", "how many of its eight are HEARD above 0, without, with an ERROR);");
         for (int n = 0; n <= 8; n++) {
             LaughDrum x = told("box a 9 1" + " 1".repeat(n) + " 0".repeat(8 - n) + ";");
             LaughDrum error = told("box a 9 1" + " 9".repeat(n) + " 0".repeat(8 - n) + ";law charm 1 / 0;");
@@ -113,7 +113,7 @@ final class SaysYears extends Check {
     }
 
     private static void wear() {
-        says("Terms", "then SPRING is less by E of wear (0 .. 9; 1 without, with an ERROR), 0 at least.");
+        says("Terms for promise 15", "then SPRING is less by E of wear (0 .. 9; 1 without, with an ERROR), 0 at least.");
         byLaw("wear", 0, 0, 0);
         byLaw("wear", 1, 0, -1);
         byLaw("wear", 8, 0, -8);
@@ -143,7 +143,7 @@ final class SaysYears extends Check {
     }
 
     private static void dampByNumber() {
-        says("Terms", "(2) a number modulo 100 (no number, if damp is 0 or 100): below damp it is DAMP:");
+        says("Terms for promise 15", "(2) a number modulo 100 (no number, if damp is 0 or 100): below damp it is DAMP:");
         for (int seed = 0; seed < 300; seed += 7) {
             int number = (int) ((seed * 1103515245L + 12345L & 0x7fffffffL) / 65536 % 100);
             if (number > 0) {
@@ -166,7 +166,7 @@ final class SaysYears extends Check {
     }
 
     private static void sour() {
-        says("Terms", "each BOX by numbers is more FALSE by E of sour (0 .. 9; 1 without, with an ERROR), 99 at most.");
+        says("Terms for promise 15", "each BOX by numbers is more FALSE by E of sour (0 .. 9; 1 without, with an ERROR), 99 at most.");
         byLaw("sour", 0, 2, 0);
         byLaw("sour", 1, 2, 1);
         byLaw("sour", 8, 2, 8);
@@ -203,7 +203,7 @@ final class SaysYears extends Check {
     }
 
     private static void nextYear() {
-        says("Terms", "Then it is the next YEAR.");
+        says("Terms for promise 15", "Then it is the next YEAR.");
         LaughDrum x = told(LONG + "law charm year;law sour year;damp 100;");
         due("year 0", x.count(4), 0);
         x.years(1);
@@ -221,7 +221,7 @@ final class SaysYears extends Check {
     }
 
     private static void numbers() {
-        says("Terms", "Numbers are the last one (at first the seed) times 1103515245 and 12345, without what is above 31 bits, by 65536.");
+        says("Terms for promise 15", "Numbers are the last one (at first the seed) times 1103515245 and 12345, without what is above 31 bits, by 65536.");
         int[] seeds = {0, 1, 12345, 99999};
         for (int seed : seeds) {
             for (int odds = 1; odds <= 99; odds += 14) {
@@ -246,7 +246,7 @@ final class SaysYears extends Check {
     }
 
     private static void asItGoes() {
-        says("Terms", "AS IT GOES: without numbers: it is DAMP, if damp is 50 at least.");
+        says("Terms for promise 16", "AS IT GOES: without numbers: it is DAMP, if damp is 50 at least.");
         int[] odds = {0, 1, 49, 50, 51, 99, 100};
         for (int damp : odds) {
             for (int seed = 0; seed < 5; seed++) {
@@ -475,7 +475,7 @@ final class SaysYears extends Check {
     }
 
     private static void lastsOfTerms() {
-        says("Terms", "LASTS of a BOX: in how many YEARS as it goes, 999 at most, SPRING is 0 (0: it is).");
+        says("Terms for promise 26", "LASTS of a BOX: in how many YEARS as it goes, 999 at most, SPRING is 0 (0: it is).");
         due("0: it is", told("box a 0 1 1 1 1 1 1 1 1 1;").lasts(0), 0);
         due("1", told("box a 1 1 1 1 1 1 1 1 1 1;").lasts(0), 1);
         due("99", told(LONG).lasts(0), 99);
@@ -626,7 +626,7 @@ final class SaysYears extends Check {
     }
 
     private static void triedOfTerms() {
-        says("Terms", "TRIED for n YEARS as it goes: LAUGHTER more: 0 no DAMP, 1 none is STOLEN, 2 BOX i isn't there, 3 no TOOTH is MISSING, 4 all SPRINGS are 99.");
+        says("Terms for promise 43", "TRIED for n YEARS as it goes: LAUGHTER more: 0 no DAMP, 1 none is STOLEN, 2 BOX i isn't there, 3 no TOOTH is MISSING, 4 all SPRINGS are 99.");
         LaughDrum x = told("box a 3 1 1 1 1 1 0 0 0 0;box b 3 1 2 2 0 0 0 0 0 0;box c 99 1 3 3 3 0 0 0 0 0;"
             + "tooth b 2;damp 50;law charm (teeth = 0) * (pins + false);");
         x.steal(0, true);

@@ -15,6 +15,13 @@ final class SentencesTest {
     }
 
     public static void main(String[] args) throws Exception {
+        ask();
+        Check.saysNoMore();
+        quotes(headings(Files.readString(DOCUMENT)));
+        Check.end();
+    }
+
+    private static void ask() {
         SaysText.all();
         SaysFaults.all();
         SaysTold.all();
@@ -23,9 +30,20 @@ final class SentencesTest {
         SaysKin.all();
         SaysFound.all();
         SaysUndo.all();
-        Check.saysNoMore();
-        quotes(headings(Files.readString(DOCUMENT)));
-        Check.end();
+    }
+
+    /** For Mutants: a line for each sentence, with a ! ahead if its test noticed something. */
+    static String unlike() {
+        try {
+            ask();
+        } catch (RuntimeException e) {
+            Check.due("thrown: " + e, 1, 0);
+        }
+        StringBuilder lines = new StringBuilder();
+        for (Check.Sentence sentence : Check.sentences()) {
+            lines.append(sentence.wrong > 0 ? '!' : ' ').append(sentence.where).append(", ").append(sentence.words).append('\n');
+        }
+        return lines.toString();
     }
 
     /** What stands under each heading, its words with one blank between, without signatures and fences. */
@@ -45,8 +63,9 @@ final class SentencesTest {
         headings.forEach((name, words) -> left.put(name, new StringBuilder(words)));
         for (Check.Sentence sentence : Check.sentences()) {
             String quote = sentence.where + ", \"" + sentence.words + "\" ";
-            StringBuilder rest = left.get(sentence.where);
-            int at = rest == null ? -1 : headings.get(sentence.where).indexOf(sentence.words);
+            String heading = sentence.where.replaceFirst(" for promise \\d+$", "");
+            StringBuilder rest = left.get(heading);
+            int at = rest == null ? -1 : headings.get(heading).indexOf(sentence.words);
             Check.due(quote + "stands in the document", at >= 0, true);
             Check.due(quote + "is tested inside and beyond", sentence.asked >= 2, true);
             for (int i = at; at >= 0 && i < at + sentence.words.length(); i++) {
