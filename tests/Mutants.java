@@ -103,8 +103,8 @@ final class Mutants {
     private String told(Break b) {
         int line = source.lastIndexOf('\n', b.from) + 1;
         long number = source.substring(0, b.from).lines().count();
-        return "line " + number + ": " + source.substring(line, b.from).trim() + " [[" + source.substring(b.from, b.until)
-            + " -> " + b.otherwise + "]]";
+        String broken = source.substring(line, b.from) + "[[" + source.substring(b.from, b.until) + " -> " + b.otherwise + "]]";
+        return "line " + number + ": " + broken.replaceAll("\\s+", " ").trim();
     }
 
     private String end(Break b) throws Exception {

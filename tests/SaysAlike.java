@@ -7,26 +7,26 @@ final class SaysAlike extends Check {
     private static final String TURNED = "box a 1 1 1 2 3 4 5 6 7 8;box b 1 1 8 1 2 3 4 5 6 7;";
 
     static void all() {
-        alikeOfTerms();
-        alike();
-        likeOfTerms();
-        like();
-        fillOfTerms();
-        fillOfSeveral();
-        fill();
-        joinInOrder();
-        joinLaid();
-        joinShortest();
-        join();
-        duetOfMinutes();
-        duetByThen();
-        duet();
-        treeOfTerms();
-        tree();
-        quoteOfTerms();
-        quote();
-        forgedOfTerms();
-        forged();
+        test(SaysAlike::alikeOfTerms);
+        test(SaysAlike::alike);
+        test(SaysAlike::likeOfTerms);
+        test(SaysAlike::like);
+        test(SaysAlike::fillOfTerms);
+        test(SaysAlike::fillOfSeveral);
+        test(SaysAlike::fill);
+        test(SaysAlike::joinInOrder);
+        test(SaysAlike::joinLaid);
+        test(SaysAlike::joinShortest);
+        test(SaysAlike::join);
+        test(SaysAlike::duetOfMinutes);
+        test(SaysAlike::duetByThen);
+        test(SaysAlike::duet);
+        test(SaysAlike::treeOfTerms);
+        test(SaysAlike::tree);
+        test(SaysAlike::quoteOfTerms);
+        test(SaysAlike::quote);
+        test(SaysAlike::forgedOfTerms);
+        test(SaysAlike::forged);
     }
 
     private static void alikeOfTerms() {

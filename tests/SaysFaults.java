@@ -8,36 +8,36 @@ final class SaysFaults extends Check {
     private static final String[] ONE_KNOT_EACH = {"+", "-", "*", "/", "<", "<=", "=", "<>", ">=", ">", " and ", " or "};
 
     static void all() {
-        boxes();
-        springs();
-        slows();
-        pins();
-        teeth();
-        teethOnce();
-        kin();
-        kinUnlike();
-        guests();
-        waitsAndDegrees();
-        damp();
-        seed();
-        numbered();
-        kindsOfNames();
-        firstAlongTheText();
-        tokens();
-        cannotStand();
-        moreMustCome();
-        numbersBeyond();
-        seventhAndSoOn();
-        ninthOpen();
-        knots();
-        kindsOfKnots();
-        nameTwice();
-        toothTwice();
-        kinTwice();
-        dampAndSeedTwice();
-        lawTwice();
-        notTold();
-        withItself();
+        test(SaysFaults::boxes);
+        test(SaysFaults::springs);
+        test(SaysFaults::slows);
+        test(SaysFaults::pins);
+        test(SaysFaults::teeth);
+        test(SaysFaults::teethOnce);
+        test(SaysFaults::kin);
+        test(SaysFaults::kinUnlike);
+        test(SaysFaults::guests);
+        test(SaysFaults::waitsAndDegrees);
+        test(SaysFaults::damp);
+        test(SaysFaults::seed);
+        test(SaysFaults::numbered);
+        test(SaysFaults::kindsOfNames);
+        test(SaysFaults::firstAlongTheText);
+        test(SaysFaults::tokens);
+        test(SaysFaults::cannotStand);
+        test(SaysFaults::moreMustCome);
+        test(SaysFaults::numbersBeyond);
+        test(SaysFaults::seventhAndSoOn);
+        test(SaysFaults::ninthOpen);
+        test(SaysFaults::knots);
+        test(SaysFaults::kindsOfKnots);
+        test(SaysFaults::nameTwice);
+        test(SaysFaults::toothTwice);
+        test(SaysFaults::kinTwice);
+        test(SaysFaults::dampAndSeedTwice);
+        test(SaysFaults::lawTwice);
+        test(SaysFaults::notTold);
+        test(SaysFaults::withItself);
     }
 
     private static void boxes() {

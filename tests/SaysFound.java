@@ -4,22 +4,22 @@ final class SaysFound extends Check {
     private static final String THREE = "box a 9 1 1 2 3 4 0 5 6 7;box b 9 1 1 3 3 4 0 5 6 8;box c 9 1 2 2 3 9 0 9 9 9;tooth b 4;damp 100;";
 
     static void all() {
-        whoseOfTerms();
-        whose();
-        foundOfTerms();
-        strikesOfTerms();
-        knownOfTerms();
-        struckStrikes();
-        askOfTerms();
-        ask();
-        soursOfTerms();
-        find();
-        findNone();
-        strike();
-        strikeNone();
-        known();
-        knownNone();
-        sours();
+        test(SaysFound::whoseOfTerms);
+        test(SaysFound::whose);
+        test(SaysFound::foundOfTerms);
+        test(SaysFound::strikesOfTerms);
+        test(SaysFound::knownOfTerms);
+        test(SaysFound::struckStrikes);
+        test(SaysFound::askOfTerms);
+        test(SaysFound::ask);
+        test(SaysFound::soursOfTerms);
+        test(SaysFound::find);
+        test(SaysFound::findNone);
+        test(SaysFound::strike);
+        test(SaysFound::strikeNone);
+        test(SaysFound::known);
+        test(SaysFound::knownNone);
+        test(SaysFound::sours);
     }
 
     private static void whoseOfTerms() {

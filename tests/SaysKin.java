@@ -5,22 +5,22 @@ final class SaysKin extends Check {
         + "box d 1 4 1 1 1 1 1 1 1 1;box e 1 5 1 1 1 1 1 1 1 1;box f 1 9 1 1 1 1 1 1 1 1;";
 
     static void all() {
-        farOfTerms();
-        far();
-        lineOfTerms();
-        line();
-        windOfTerms();
-        windMost();
-        winding();
-        stayOfTerms();
-        stay();
-        laughBackOfTerms();
-        laughBack();
-        key();
-        restOfTerms();
-        restsInOrder();
-        rests();
-        rest();
+        test(SaysKin::farOfTerms);
+        test(SaysKin::far);
+        test(SaysKin::lineOfTerms);
+        test(SaysKin::line);
+        test(SaysKin::windOfTerms);
+        test(SaysKin::windMost);
+        test(SaysKin::winding);
+        test(SaysKin::stayOfTerms);
+        test(SaysKin::stay);
+        test(SaysKin::laughBackOfTerms);
+        test(SaysKin::laughBack);
+        test(SaysKin::key);
+        test(SaysKin::restOfTerms);
+        test(SaysKin::restsInOrder);
+        test(SaysKin::rests);
+        test(SaysKin::rest);
     }
 
     private static void farOfTerms() {

@@ -13,32 +13,32 @@ final class SaysText extends Check {
     static final String[] NAMES = {"spring", "slow", "pins", "false", "teeth", "plays", "year"};
 
     static void all() {
-        calls512();
-        linesOfText();
-        kindsOfLine();
-        kindsOfLaw();
-        words();
-        ownNames();
-        digits();
-        blanks();
-        grammarOfTruth();
-        grammarOfComparisons();
-        grammarOfSums();
-        operands();
-        numbersOfE();
-        namesOfE();
-        signsOfTwo();
-        newObject();
-        feedTwenty();
-        tapeIsFull();
-        textTakesTheTape();
-        textSetsOut();
-        textAfterTexts();
-        textOfCutBytes();
-        textWithFault();
-        textTooLong();
-        faultOfLatest();
-        faultOfAnotherWhat();
+        test(SaysText::calls512);
+        test(SaysText::linesOfText);
+        test(SaysText::kindsOfLine);
+        test(SaysText::kindsOfLaw);
+        test(SaysText::words);
+        test(SaysText::ownNames);
+        test(SaysText::digits);
+        test(SaysText::blanks);
+        test(SaysText::grammarOfTruth);
+        test(SaysText::grammarOfComparisons);
+        test(SaysText::grammarOfSums);
+        test(SaysText::operands);
+        test(SaysText::numbersOfE);
+        test(SaysText::namesOfE);
+        test(SaysText::signsOfTwo);
+        test(SaysText::newObject);
+        test(SaysText::feedTwenty);
+        test(SaysText::tapeIsFull);
+        test(SaysText::textTakesTheTape);
+        test(SaysText::textSetsOut);
+        test(SaysText::textAfterTexts);
+        test(SaysText::textOfCutBytes);
+        test(SaysText::textWithFault);
+        test(SaysText::textTooLong);
+        test(SaysText::faultOfLatest);
+        test(SaysText::faultOfAnotherWhat);
     }
 
     private static void calls512() {

@@ -6,29 +6,29 @@ final class SaysTold extends Check {
     private static final String TRILLION = "1000*1000*1000*1000";
 
     static void all() {
-        silence();
-        heardByFalse();
-        springAndSlow();
-        pinsAsTold();
-        falseAndTeeth();
-        plays();
-        year();
-        longs();
-        truths();
-        division();
-        byZero();
-        valuesTooLarge();
-        named();
-        namedNone();
-        box();
-        noSuchBox();
-        noSuchWhat();
-        pin();
-        heard();
-        guest();
-        kin();
-        law();
-        noLaw();
+        test(SaysTold::silence);
+        test(SaysTold::heardByFalse);
+        test(SaysTold::springAndSlow);
+        test(SaysTold::pinsAsTold);
+        test(SaysTold::falseAndTeeth);
+        test(SaysTold::plays);
+        test(SaysTold::year);
+        test(SaysTold::longs);
+        test(SaysTold::truths);
+        test(SaysTold::division);
+        test(SaysTold::byZero);
+        test(SaysTold::valuesTooLarge);
+        test(SaysTold::named);
+        test(SaysTold::namedNone);
+        test(SaysTold::box);
+        test(SaysTold::noSuchBox);
+        test(SaysTold::noSuchWhat);
+        test(SaysTold::pin);
+        test(SaysTold::heard);
+        test(SaysTold::guest);
+        test(SaysTold::kin);
+        test(SaysTold::law);
+        test(SaysTold::noLaw);
     }
 
     private static void silence() {

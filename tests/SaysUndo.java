@@ -4,16 +4,16 @@ final class SaysUndo extends Check {
     private static final String TWO = "box a 5 2 1 2 3 4 0 5 6 7;box b 98 3 1 1 0 0 0 0 0 0;tooth a 7;damp 60;seed 4;";
 
     static void all() {
-        whatCanBeUndone();
-        undoneByTwenty();
-        undoneInTheYear();
-        imageOfAll();
-        imageWithoutFound();
-        undo();
-        keep();
-        back();
-        counts();
-        countNone();
+        test(SaysUndo::whatCanBeUndone);
+        test(SaysUndo::undoneByTwenty);
+        test(SaysUndo::undoneInTheYear);
+        test(SaysUndo::imageOfAll);
+        test(SaysUndo::imageWithoutFound);
+        test(SaysUndo::undo);
+        test(SaysUndo::keep);
+        test(SaysUndo::back);
+        test(SaysUndo::counts);
+        test(SaysUndo::countNone);
     }
 
     /** What the calls tell of all that may change. */

@@ -6,34 +6,34 @@ final class SaysYears extends Check {
     private static final String TWO = "box a 5 2 1 2 3 4 0 5 6 7;box b 3 3 1 1 0 0 0 0 0 0;";
 
     static void all() {
-        letGo();
-        charm();
-        charmWithout();
-        wear();
-        dampByNumber();
-        sour();
-        nextYear();
-        numbers();
-        asItGoes();
-        wind();
-        windRefused();
-        windNone();
-        steal();
-        stealRefused();
-        tooth();
-        toothRefused();
-        years();
-        yearsRefused();
-        ahead();
-        aheadNone();
-        lastsOfTerms();
-        lasts();
-        merriest();
-        silent();
-        runDown();
-        chance();
-        triedOfTerms();
-        tried();
+        test(SaysYears::letGo);
+        test(SaysYears::charm);
+        test(SaysYears::charmWithout);
+        test(SaysYears::wear);
+        test(SaysYears::dampByNumber);
+        test(SaysYears::sour);
+        test(SaysYears::nextYear);
+        test(SaysYears::numbers);
+        test(SaysYears::asItGoes);
+        test(SaysYears::wind);
+        test(SaysYears::windRefused);
+        test(SaysYears::windNone);
+        test(SaysYears::steal);
+        test(SaysYears::stealRefused);
+        test(SaysYears::tooth);
+        test(SaysYears::toothRefused);
+        test(SaysYears::years);
+        test(SaysYears::yearsRefused);
+        test(SaysYears::ahead);
+        test(SaysYears::aheadNone);
+        test(SaysYears::lastsOfTerms);
+        test(SaysYears::lasts);
+        test(SaysYears::merriest);
+        test(SaysYears::silent);
+        test(SaysYears::runDown);
+        test(SaysYears::chance);
+        test(SaysYears::triedOfTerms);
+        test(SaysYears::tried);
     }
 
     private static void letGo() {
@@ -484,6 +484,8 @@ final class SaysYears extends Check {
         due("999", told("box a 1 1 1 1 1 1 1 1 1 1;law wear plays >= 999;").lasts(0), 999);
         due("999 by the year", told("box a 1 1 1 1 1 1 1 1 1 1;law wear year = 998;").lasts(0), 999);
         due("1000 by the year", told("box a 1 1 1 1 1 1 1 1 1 1;law wear year = 999;").lasts(0), -2);
+        due("damp as it goes", told("box a 9 1 1 1 1 1 1 1 1 1;damp 50;law wear false;").lasts(0), 5);
+        due("no damp as it goes", told("box a 9 1 1 1 1 1 1 1 1 1;damp 49;law wear not false;").lasts(0), 9);
         LaughDrum x = told("box a 0 1 1 1 1 1 1 1 1 1;box b 2 1 1 1 1 1 1 1 1 1;law wear year >= 9;");
         due("from year 0", x.lasts(1), 11);
         x.years(4);
@@ -570,6 +572,9 @@ final class SaysYears extends Check {
         due("run down by now", x.runDown(99), 10);
         within("n", n -> x.runDown(n), 0, 99, NONE);
         due("none told", new LaughDrum().runDown(99), 0);
+        due("damp as it goes", told("box a 9 1 1 1 1 1 1 1 1 1;damp 50;law wear false;").runDown(5), 1);
+        due("damp as it goes, a year less", told("box a 9 1 1 1 1 1 1 1 1 1;damp 50;law wear false;").runDown(4), 0);
+        due("no damp as it goes", told("box a 9 1 1 1 1 1 1 1 1 1;damp 49;law wear false;").runDown(99), 0);
         LaughDrum six = told(SIX);
         due("six", six.runDown(1), 63);
         text(six, BOX_A);
@@ -656,6 +661,10 @@ final class SaysYears extends Check {
         int[] byDamp = {0, 30, 0, 30, 30};
         for (int what = 0; what <= 4; what++) {
             due("damp by " + what, damp.tried(what, 0, 3), byDamp[what]);
+        }
+        LaughDrum dry = told("box a 9 1 1 1 1 1 1 1 1 1;damp 49;law charm false * 10;tooth a 1;");
+        for (int what = 0; what <= 4; what++) {
+            due("no damp by " + what, dry.tried(what, 0, 3), 0);
         }
         LaughDrum teeth = told("box a 9 1 1 2 3 0 0 0 0 0;tooth a 1;tooth a 2;tooth a 3;");
         due("none is heard", teeth.tried(1, 0, 2), 0);

@@ -34,11 +34,7 @@ final class SentencesTest {
 
     /** For Mutants: a line for each sentence, with a ! ahead if its test noticed something. */
     static String unlike() {
-        try {
-            ask();
-        } catch (RuntimeException e) {
-            Check.due("thrown: " + e, 1, 0);
-        }
+        ask();
         StringBuilder lines = new StringBuilder();
         for (Check.Sentence sentence : Check.sentences()) {
             lines.append(sentence.wrong > 0 ? '!' : ' ').append(sentence.where).append(", ").append(sentence.words).append('\n');
