@@ -142,15 +142,15 @@ class Check {
         return bits;
     }
 
-    /** What box throws. 1: IndexOutOfBoundsException, 2: NoSuchElementException, 0: nothing. */
+    /** What box throws. 1: IndexOutOfBoundsException itself, 2: NoSuchElementException itself, 3: one below, 0: nothing. */
     static int thrown(LaughDrum drum, int box, int what) {
         try {
             drum.box(box, what);
             return 0;
         } catch (IndexOutOfBoundsException e) {
-            return 1;
+            return e.getClass() == IndexOutOfBoundsException.class ? 1 : 3;
         } catch (NoSuchElementException e) {
-            return 2;
+            return e.getClass() == NoSuchElementException.class ? 2 : 3;
         }
     }
 

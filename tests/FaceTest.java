@@ -25,6 +25,7 @@ final class FaceTest {
 
     public static void main(String[] args) throws Exception {
         face();
+        asTheDocumentTells();
         source();
         Check.end();
     }
@@ -55,6 +56,21 @@ final class FaceTest {
         }
         Check.due("NONE", LaughDrum.NONE, -1);
         Check.due("final", Modifier.isFinal(LaughDrum.class.getModifiers()), true);
+    }
+
+    /** Each line of the document's face must stand in the source, and no other public one. */
+    private static void asTheDocumentTells() throws Exception {
+        String document = Files.readString(Path.of("../shared/DOC.md"));
+        String source = Files.readString(Path.of("src/main/java/LaughDrum.java"));
+        String face = document.replaceFirst("(?s).*?## The public face\\s*```java\n(.*?)```.*", "$1");
+        int lines = 0;
+        for (String line : face.split("\n")) {
+            String body = line.contains("(") ? line.replaceFirst(";$", " {") : line;
+            Check.due("the source has '" + body + "'", ("\n" + source).contains("\n" + body + "\n"), true);
+            lines += line.contains("public ") ? 1 : 0;
+        }
+        Check.due("a class, a constant, a constructor, 46 methods", lines, 49);
+        Check.due("public lines of the source", source.lines().filter(line -> line.matches("\\s*public .*")).count(), lines);
     }
 
     private static void hidden(TreeSet<String> names) {
